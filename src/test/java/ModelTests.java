@@ -6,6 +6,17 @@ import java.util.Map;
 final class ModelTests {
     private static final String[] ASKED = {"takes", "shown", "used", "left", "changed", "mended", "number"};
 
+    private static BelowThread last = new BelowThread();
+
+    /** An object in the model's room: a new one, or (as often) that of the room before. */
+    private static BelowThread in(Model m) {
+        if (m.random.nextBoolean()) {
+            last = new BelowThread();
+        }
+        Checks.due("room", Checks.room(last, m.text), m.statements);
+        return last;
+    }
+
     public static void main(String[] args) {
         for (int seed = 0; seed < 600; seed++) {
             Model model = new Model(seed, seed % 11);
@@ -76,7 +87,7 @@ final class ModelTests {
         for (int sewer = 0; sewer < sewers; sewer++) {
             boolean there = sewer != 3 || m.takes.length <= 6;
             for (int length : new int[] {1 + m.random.nextInt(99), m.lengths[0], 99}) {
-                BelowThread x = Checks.in(m.text);
+                BelowThread x = in(m);
                 if (!there) {
                     Checks.due("judge of none", x.judge(sewer, length, 1), -1);
                     Checks.due("row of none", x.row(sewer, length, 0, 0), -1);
@@ -86,7 +97,7 @@ final class ModelTests {
                 course(m, x, sewer, length);
             }
         }
-        BelowThread x = Checks.in(m.text);
+        BelowThread x = in(m);
         Checks.due("no such sewer", x.judge(sewers, 9, 1), -1);
         Checks.due("no such sewer", x.mean(sewers), -1);
     }
@@ -145,7 +156,7 @@ final class ModelTests {
     }
 
     private static void chances(Model m) {
-        BelowThread x = Checks.in(m.text);
+        BelowThread x = in(m);
         int best = -1;
         Model.Ratio cheapest = null;
         for (int sewer = 0; sewer < 4 + m.rules.size(); sewer++) {
@@ -169,7 +180,7 @@ final class ModelTests {
     }
 
     private static void bobbins(Model m) {
-        BelowThread x = Checks.in(m.text);
+        BelowThread x = in(m);
         int[] some = {1 + m.random.nextInt(99), m.lengths[0], 20 + m.random.nextInt(60), 99};
         for (int length : some) {
             if (!m.canSew(length)) {
@@ -223,7 +234,7 @@ final class ModelTests {
     }
 
     private static void hidden(Model m) {
-        BelowThread x = Checks.in(m.text);
+        BelowThread x = in(m);
         for (int n = 0; n < 4; n++) {
             int length = 1 + m.random.nextInt(n == 0 ? 99 : 40);
             List<int[]> starts = m.hidden(length);

@@ -18,6 +18,7 @@ final class PromiseTests {
         rules();
         fewest();
         free();
+        roomAfterRoom();
         hidden();
         several();
         wound();
@@ -339,10 +340,32 @@ final class PromiseTests {
         Checks.due("free(5)", x.free(5, -1), 6);
         Checks.due("free(24)", x.free(24, -1), 1);
         Checks.due("free without seams", Checks.in(ONE).free(9, -1), 0);
-        // Another room on the same object, by the same length.
-        Checks.room(x, ONE + "seam a takes 5;");
-        Checks.due("free in another room", x.free(12, -1), 1);
-        Checks.due("several in another room", x.several(12, -1), 5);
+    }
+
+    /** Rooms told one behind the other on one object: nothing of the one before is left. */
+    private static void roomAfterRoom() {
+        BelowThread x = Checks.in(FIVE);
+        for (int n = 0; n < 3; n++) {
+            Checks.due("free", x.free(12, -1), 2);
+            Checks.due("several", x.several(12, -1), 7);
+            Checks.due("when of like ones", x.when(2, 6), 0);
+            Checks.due("mean", x.mean(3), 6000);
+            Checks.due("room", Checks.room(x, ONE + "seam a takes 5;seam b takes 7;wind 9;mend 1;rule r when all;"), 6);
+            Checks.due("free in another room", x.free(12, -1), 1);
+            Checks.due("several in another room", x.several(12, -1), 12);
+            Checks.due("mean in another room", x.mean(3), 9000);
+            Checks.due("when in another room", x.when(1, 5), 1);
+            Checks.due("mean in another room", x.mean(4), 9000);
+            Checks.due("minutes", x.has(8), 1);
+            Checks.due("rules", x.has(2), 1);
+            Checks.due("seams", x.has(1), 2);
+            Checks.due("yards", x.has(9), 12);
+            Checks.due("places", x.seam(1, 2), 0);
+            Checks.due("a bad room between", Checks.room(x, ONE + "seam z takes 9;seam z takes 3;"), -1);
+            Checks.due("seams stay", x.has(1), 2);
+            Checks.due("free stays", x.free(12, -1), 1);
+            Checks.due("room", Checks.room(x, FIVE), 9);
+        }
     }
 
     private static void hidden() {
@@ -707,6 +730,8 @@ final class PromiseTests {
         on(x, false, image(7, 0, 7, 0, 0, 0));
         on(x, false, image(3, 0, 7, 4, 0, 0));
         on(x, false, image(3, 0, 7, 0, 4, 0));
+        on(x, false, image(3, 5, 7, 0, 4, 0));
+        on(x, false, image(3, 5, 7, 4, 0, 0));
         on(x, false, image(3, 0, 6, 0, 0, 0));
         on(x, false, image(3, 8, 7, 0, 0, 0));
         on(x, false, image(3, 0, 7, 0, 0, 10000));
@@ -716,13 +741,14 @@ final class PromiseTests {
         on(x, false, wrong);
         int[] longer = java.util.Arrays.copyOf(image(3, 5, 7, 1, 2, 300), 9);
         on(x, false, longer);
-        Checks.due("refused", x.status(5), 11);
+        Checks.due("refused", x.status(5), 13);
         dayIs("all stays", x, 1, 4, 0, 0, 0, 1);
         Checks.due("acts stay", x.has(11), 1);
         on(x, true, image(3, 5, 7, 1, 2, 300));
         dayIs("on", x, 3, 5, 1, 2, 300, 1);
         Checks.due("nothing can be undone", x.has(11), 0);
         Checks.due("undo", x.undo(), false);
+        on(x, true, image(3, 0, 7, 3, 3, 0));
         on(x, true, image(6, 7, 7, 6, 6, 9999));
         dayIs("the most", x, 6, 7, 6, 6, 9999, 0);
         on(x, true, image(0, 3, 7, 0, 0, 0));
