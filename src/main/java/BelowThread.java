@@ -1509,11 +1509,8 @@ public final class BelowThread {
                 return;
             }
             sharedFor = length;
-            soonest = 0;
-            if (room.seamCount > 0) {
-                soonest = Integer.MAX_VALUE;
-                giveOut(room, length, 0, 0);
-            }
+            soonest = Integer.MAX_VALUE;
+            giveOut(room, length, 0, 0);
         }
 
         /** Tries all ways to give out the seams from one on: the first of the soonest ones is kept. */

@@ -95,6 +95,7 @@ final class FaultTests {
         fine("wind 99;mend 99;look 99;batch 99;ahead 9;girls 3;wind 4;");
         behind(1, "|bobbin lasts 5 odds 100;");
         behind(1, "|takes 3;");
+        behind(1, "|used 3;");
         behind(1, "|first 3;");
         behind(1, "|hem 3;");
         behind(1, "|winds 3;");

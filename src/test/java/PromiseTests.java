@@ -365,6 +365,18 @@ final class PromiseTests {
             Checks.due("seams stay", x.has(1), 2);
             Checks.due("free stays", x.free(12, -1), 1);
             Checks.due("room", Checks.room(x, FIVE), 9);
+            Checks.due("hidden", x.hidden(7, 10), 200);
+            Checks.due("mean", x.mean(0), 6000);
+            Checks.due("one seam", Checks.room(x, ONE + "seam a takes 9;"), 2);
+            Checks.due("mean of one seam", x.mean(0), 11000);
+            Checks.due("several of one seam", x.several(9, -1), 9);
+            Checks.due("no seam", Checks.room(x, ONE), 1);
+            Checks.due("several of none", x.several(9, -1), 0);
+            Checks.due("free of none", x.free(9, -1), 0);
+            Checks.due("hidden of none", x.hidden(7, 0), 0);
+            Checks.due("hidden of none", x.hidden(7, 1), 0);
+            Checks.due("hidden of none", x.hidden(7, 10), -1);
+            Checks.due("room", Checks.room(x, FIVE), 9);
         }
     }
 
@@ -429,6 +441,7 @@ final class PromiseTests {
         Checks.due("wound(-1)", x.wound(-1), -1);
         Checks.due("wound(MIN)", x.wound(Integer.MIN_VALUE), -1);
         Checks.due("fewer at once", Checks.in(ONE + "wind 9;batch 1;ahead 9;").wound(10), 2);
+        Checks.due("one at once", Checks.in(ONE + "wind 9;batch 1;ahead 1;").wound(5), 5);
         Checks.due("batch 0", Checks.in(ONE + "batch 0;").wound(99), 0);
         Checks.due("wind 0", Checks.in(ONE + "wind 0;").wound(99), 0);
     }
