@@ -1025,8 +1025,8 @@ public final class BelowThread {
             if (isWord(W_LASTS)) {
                 fail(FAULT_MANY, start);
             }
-            // Odds with "lasts" behind them are not the last ones, even where only a blank is missing between.
-            if (sum < 100 && word != W_LASTS) {
+            // No "lasts" goes on from here (one that lacks its blank neither), so these odds are the last ones.
+            if (sum < 100) {
                 fail(FAULT_NUMBER, oddsAt);
             }
         }

@@ -65,7 +65,15 @@ final class FaultTests {
         at(1, "bobbin lasts 5 odds 100|");
         at(1, "bobbin lasts 5 odds 100 |x");
         at(1, "bobbin lasts 5 odds 100 |\tseam");
-        at(1, "bobbin lasts 5 odds 50|lasts 6 odds 50;");
+        at(2, "bobbin lasts 5 odds |50lasts 6 odds 50;");
+        at(2, "bobbin lasts 5 odds |50lasts \0\0");
+        at(2, "bobbin lasts 5 odds |50lastsx");
+        at(2, "bobbin lasts 5 odds 50 lasts 6 odds |49lasts 7 odds 1;");
+        at(1, "bobbin lasts 5 odds 100|lasts 6 odds 1;");
+        at(1, "bobbin lasts 5 odds 50 lasts|6 odds 50;");
+        at(1, "bobbin lasts 5 odds 50 lasts 6|odds 50;");
+        at(1, "bobbin lasts 5 odds 50 lasts|");
+        at(1, "bobbin lasts 5 odds 50 lasts |\0");
         at(1, "bobbin lasts 5 odds 50 lasts 6 odds 50;|;");
         at(2, "bobbin lasts |0 odds 100;");
         at(2, "bobbin lasts |100 odds 100;");
@@ -87,6 +95,8 @@ final class FaultTests {
         at(5, six + "50 |lasts 7 odds 1;");
         at(5, six + "40 |lasts 7 odds 10;");
         at(2, six + "|40;");
+        at(2, six + "|40lasts 7 odds 10;");
+        at(1, six + "50|lasts 7 odds 1;");
     }
 
     private static void statements() {
