@@ -8,6 +8,7 @@ final class Checks {
 
     private static int asked = 0;
     private static int wrong = 0;
+    private static String about = "";
 
     private Checks() {
     }
@@ -17,7 +18,7 @@ final class Checks {
         if (got != want) {
             wrong++;
             if (wrong <= 40) {
-                System.out.println(what + " answered " + got + ", due is " + want);
+                System.out.println(about + what + " answered " + got + ", due is " + want);
             }
         }
     }
@@ -28,6 +29,15 @@ final class Checks {
 
     static int wrong() {
         return wrong;
+    }
+
+    static int asked() {
+        return asked;
+    }
+
+    /** What the answers from here on are asked for. */
+    static void about(String sentence) {
+        about = sentence.isEmpty() ? "" : sentence + ": ";
     }
 
     /** Puts bytes alone on the tape. */
@@ -70,6 +80,47 @@ final class Checks {
     static long ask(BelowThread x, int sewer, int length, String question) {
         tape(x, question);
         return x.ask(sewer, length);
+    }
+
+    /** A text, told as a room to a new object, has this fault at this place. */
+    static void fault(String text, int fault, int place) {
+        BelowThread x = new BelowThread();
+        int answer = room(x, text);
+        due("room '" + text + "' fault", x.fault(0), fault);
+        due("room '" + text + "' place", x.fault(1), place);
+        due("room '" + text + "' refused", x.status(1), fault == 0 ? 0 : 1);
+        due("room '" + text + "'", answer < 0, fault != 0);
+    }
+
+    /** The fault stands at the mark |, which is no part of the text. */
+    static void faultAt(int fault, String marked) {
+        int place = marked.indexOf('|');
+        fault(marked.substring(0, place) + marked.substring(place + 1), fault, place);
+    }
+
+    static void good(String text) {
+        fault(text, 0, BelowThread.NONE);
+    }
+
+    /** A question in the room BIG; without a mark it is a good one. */
+    static void askFault(int fault, String marked) {
+        int place = marked.indexOf('|');
+        String text = place < 0 ? marked : marked.substring(0, place) + marked.substring(place + 1);
+        BelowThread x = in(BIG);
+        long answer = ask(x, 0, 20, text);
+        due("ask '" + text + "' fault", x.fault(0), fault);
+        due("ask '" + text + "' place", x.fault(1), place);
+        due("ask '" + text + "' NOTHING", answer == BelowThread.NOTHING, fault != 0);
+        due("ask counts as no refusal", x.status(1), 0);
+    }
+
+    /** An image with the last byte that is due. */
+    static int[] image(int sewn, int used, int lasts, int changes, int mended, int cost) {
+        int[] bytes = {sewn, used, lasts, changes, mended, cost / 256, cost % 256, 199};
+        for (int k = 0; k < 7; k++) {
+            bytes[7] = (3 * bytes[7] + bytes[k]) % 251;
+        }
+        return bytes;
     }
 
     static int[] imageOf(BelowThread x) {

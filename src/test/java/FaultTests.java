@@ -16,87 +16,68 @@ final class FaultTests {
         Checks.end("FaultTests");
     }
 
-    private static void room(String text, int fault, int place) {
-        BelowThread x = new BelowThread();
-        int answer = Checks.room(x, text);
-        Checks.due("room '" + text + "' fault", x.fault(0), fault);
-        Checks.due("room '" + text + "' place", x.fault(1), place);
-        Checks.due("room '" + text + "' refused", x.status(1), fault == 0 ? 0 : 1);
-        Checks.due("room '" + text + "'", answer < 0, fault != 0);
-    }
-
-    /** The fault stands at the mark |, which is no part of the text. */
-    private static void at(int fault, String marked) {
-        int place = marked.indexOf('|');
-        room(marked.substring(0, place) + marked.substring(place + 1), fault, place);
-    }
-
-    private static void good(String text) {
-        room(text, 0, BelowThread.NONE);
-    }
-
     private static void behind(int fault, String marked) {
-        at(fault, HEAD + marked);
+        Checks.faultAt(fault, HEAD + marked);
     }
 
     private static void fine(String text) {
-        good(HEAD + text);
+        Checks.good(HEAD + text);
     }
 
     private static void lengths() {
-        good("bobbin lasts 1 odds 100;");
-        good("bobbin lasts 99 odds 1 lasts 98 odds 99 ;");
-        good("\n bobbin\nlasts 0099 odds 0100\n;\n ");
-        at(1, "|");
-        at(1, "   |");
-        at(1, "|seam a takes 3;");
-        at(1, "|bobbi");
-        at(1, "|bobbins lasts 5 odds 100;");
-        at(1, "|Bobbin lasts 5 odds 100;");
-        at(1, "|;");
-        at(1, "bobbin|");
-        at(1, "bobbin |odds 5");
-        at(1, "bobbin lasts|");
-        at(1, "bobbin lasts |;");
-        at(1, "bobbin lasts|5 odds 100;");
-        at(1, "bobbin lasts 5|odds 100;");
-        at(1, "bobbin lasts 5 |5");
-        at(1, "bobbin lasts 5 odds|100;");
-        at(1, "bobbin lasts 5 odds 100|");
-        at(1, "bobbin lasts 5 odds 100 |x");
-        at(1, "bobbin lasts 5 odds 100 |\tseam");
-        at(2, "bobbin lasts 5 odds |50lasts 6 odds 50;");
-        at(2, "bobbin lasts 5 odds |50lasts \0\0");
-        at(2, "bobbin lasts 5 odds |50lastsx");
-        at(2, "bobbin lasts 5 odds 50 lasts 6 odds |49lasts 7 odds 1;");
-        at(1, "bobbin lasts 5 odds 100|lasts 6 odds 1;");
-        at(1, "bobbin lasts 5 odds 50 lasts|6 odds 50;");
-        at(1, "bobbin lasts 5 odds 50 lasts 6|odds 50;");
-        at(1, "bobbin lasts 5 odds 50 lasts|");
-        at(1, "bobbin lasts 5 odds 50 lasts |\0");
-        at(1, "bobbin lasts 5 odds 50 lasts 6 odds 50;|;");
-        at(2, "bobbin lasts |0 odds 100;");
-        at(2, "bobbin lasts |100 odds 100;");
-        at(2, "bobbin lasts |9999 odds 100;");
-        at(1, "bobbin lasts 9999|9 odds 100;");
-        at(1, "bobbin lasts 0000|5 odds 100;");
-        at(2, "bobbin lasts 5 odds |0;");
-        at(2, "bobbin lasts 5 odds |101;");
-        at(2, "bobbin lasts 5 odds 50 lasts |5 odds 50;");
-        at(2, "bobbin lasts 5 odds 50 lasts |05 odds 50;");
-        at(2, "bobbin lasts 5 odds 50 lasts 6 odds |51;");
-        at(2, "bobbin lasts 5 odds 100 lasts 6 odds |1;");
-        at(2, "bobbin lasts 5 odds |50;");
-        at(2, "bobbin lasts 5 odds 50 lasts 6 odds |49;");
-        at(2, "bobbin lasts 5 odds 50 lasts 6 odds |49 x");
-        at(2, "bobbin lasts 5 odds |50");
+        Checks.good("bobbin lasts 1 odds 100;");
+        Checks.good("bobbin lasts 99 odds 1 lasts 98 odds 99 ;");
+        Checks.good("\n bobbin\nlasts 0099 odds 0100\n;\n ");
+        Checks.faultAt(1, "|");
+        Checks.faultAt(1, "   |");
+        Checks.faultAt(1, "|seam a takes 3;");
+        Checks.faultAt(1, "|bobbi");
+        Checks.faultAt(1, "|bobbins lasts 5 odds 100;");
+        Checks.faultAt(1, "|Bobbin lasts 5 odds 100;");
+        Checks.faultAt(1, "|;");
+        Checks.faultAt(1, "bobbin|");
+        Checks.faultAt(1, "bobbin |odds 5");
+        Checks.faultAt(1, "bobbin lasts|");
+        Checks.faultAt(1, "bobbin lasts |;");
+        Checks.faultAt(1, "bobbin lasts|5 odds 100;");
+        Checks.faultAt(1, "bobbin lasts 5|odds 100;");
+        Checks.faultAt(1, "bobbin lasts 5 |5");
+        Checks.faultAt(1, "bobbin lasts 5 odds|100;");
+        Checks.faultAt(1, "bobbin lasts 5 odds 100|");
+        Checks.faultAt(1, "bobbin lasts 5 odds 100 |x");
+        Checks.faultAt(1, "bobbin lasts 5 odds 100 |\tseam");
+        Checks.faultAt(2, "bobbin lasts 5 odds |50lasts 6 odds 50;");
+        Checks.faultAt(2, "bobbin lasts 5 odds |50lasts \0\0");
+        Checks.faultAt(2, "bobbin lasts 5 odds |50lastsx");
+        Checks.faultAt(2, "bobbin lasts 5 odds 50 lasts 6 odds |49lasts 7 odds 1;");
+        Checks.faultAt(1, "bobbin lasts 5 odds 100|lasts 6 odds 1;");
+        Checks.faultAt(1, "bobbin lasts 5 odds 50 lasts|6 odds 50;");
+        Checks.faultAt(1, "bobbin lasts 5 odds 50 lasts 6|odds 50;");
+        Checks.faultAt(1, "bobbin lasts 5 odds 50 lasts|");
+        Checks.faultAt(1, "bobbin lasts 5 odds 50 lasts |\0");
+        Checks.faultAt(1, "bobbin lasts 5 odds 50 lasts 6 odds 50;|;");
+        Checks.faultAt(2, "bobbin lasts |0 odds 100;");
+        Checks.faultAt(2, "bobbin lasts |100 odds 100;");
+        Checks.faultAt(2, "bobbin lasts |9999 odds 100;");
+        Checks.faultAt(1, "bobbin lasts 9999|9 odds 100;");
+        Checks.faultAt(1, "bobbin lasts 0000|5 odds 100;");
+        Checks.faultAt(2, "bobbin lasts 5 odds |0;");
+        Checks.faultAt(2, "bobbin lasts 5 odds |101;");
+        Checks.faultAt(2, "bobbin lasts 5 odds 50 lasts |5 odds 50;");
+        Checks.faultAt(2, "bobbin lasts 5 odds 50 lasts |05 odds 50;");
+        Checks.faultAt(2, "bobbin lasts 5 odds 50 lasts 6 odds |51;");
+        Checks.faultAt(2, "bobbin lasts 5 odds 100 lasts 6 odds |1;");
+        Checks.faultAt(2, "bobbin lasts 5 odds |50;");
+        Checks.faultAt(2, "bobbin lasts 5 odds 50 lasts 6 odds |49;");
+        Checks.faultAt(2, "bobbin lasts 5 odds 50 lasts 6 odds |49 x");
+        Checks.faultAt(2, "bobbin lasts 5 odds |50");
         String six = "bobbin lasts 1 odds 10 lasts 2 odds 10 lasts 3 odds 10 lasts 4 odds 10 lasts 5 odds 10 lasts 6 odds ";
-        good(six + "50;");
-        at(5, six + "50 |lasts 7 odds 1;");
-        at(5, six + "40 |lasts 7 odds 10;");
-        at(2, six + "|40;");
-        at(2, six + "|40lasts 7 odds 10;");
-        at(1, six + "50|lasts 7 odds 1;");
+        Checks.good(six + "50;");
+        Checks.faultAt(5, six + "50 |lasts 7 odds 1;");
+        Checks.faultAt(5, six + "40 |lasts 7 odds 10;");
+        Checks.faultAt(2, six + "|40;");
+        Checks.faultAt(2, six + "|40lasts 7 odds 10;");
+        Checks.faultAt(1, six + "50|lasts 7 odds 1;");
     }
 
     private static void statements() {
@@ -196,22 +177,22 @@ final class FaultTests {
         for (int k = 0; k < 10; k++) {
             ten.append("seam ").append((char) ('a' + k)).append(" takes 5;");
         }
-        good(ten.toString());
-        at(5, ten + " |seam k takes 5;");
-        at(5, ten + " |seam");
+        Checks.good(ten.toString());
+        Checks.faultAt(5, ten + " |seam k takes 5;");
+        Checks.faultAt(5, ten + " |seam");
         String rules = HEAD + "rule a when all;rule b when all;rule c when all;rule d when all;";
-        good(rules);
-        at(5, rules + "|rule e when all;");
-        at(5, rules + "wind 3;|rule a");
+        Checks.good(rules);
+        Checks.faultAt(5, rules + "|rule e when all;");
+        Checks.faultAt(5, rules + "wind 3;|rule a");
         StringBuilder sixty = new StringBuilder(HEAD);
         for (int k = 0; k < 59; k++) {
             sixty.append("wind 3;");
         }
-        good(sixty + " ");
-        at(5, sixty + " |wind 3;");
-        at(5, sixty + "|;");
-        at(5, sixty + "|bobbin");
-        at(5, sixty + "\n|\u0001");
+        Checks.good(sixty + " ");
+        Checks.faultAt(5, sixty + " |wind 3;");
+        Checks.faultAt(5, sixty + "|;");
+        Checks.faultAt(5, sixty + "|bobbin");
+        Checks.faultAt(5, sixty + "\n|\u0001");
     }
 
     private static void tests() {
@@ -276,56 +257,45 @@ final class FaultTests {
         behind(1, "rule r when [[[[[[used|[");
     }
 
-    private static void ask(int fault, String marked) {
-        int place = marked.indexOf('|');
-        String text = place < 0 ? marked : marked.substring(0, place) + marked.substring(place + 1);
-        BelowThread x = Checks.in(Checks.BIG);
-        long answer = Checks.ask(x, 0, 20, text);
-        Checks.due("ask '" + text + "' fault", x.fault(0), fault);
-        Checks.due("ask '" + text + "' place", x.fault(1), place);
-        Checks.due("ask '" + text + "' NOTHING", answer == BelowThread.NOTHING, fault != 0);
-        Checks.due("ask counts as no refusal", x.status(1), 0);
-    }
-
     private static void questions() {
-        ask(0, "first all");
-        ask(0, "\nlast[all]\n");
-        ask(0, "often not left<used and changed=mended");
-        ask(0, "total takes+shown+used+left+changed+mended+number+yards 2");
-        ask(0, "most yards yards number");
-        ask(0, "least yards(number+1)*yards min(1,2)");
-        ask(1, "|");
-        ask(1, "  |");
-        ask(1, "|all");
-        ask(1, "|sum takes");
-        ask(1, "|max(1,2)");
-        ask(1, "|firsts all");
-        ask(1, "|5");
-        ask(1, "first|");
-        ask(1, "first takes|");
-        ask(1, "first all|;");
-        ask(1, "first all |all");
-        ask(1, "total |all");
-        ask(1, "total takes|>3");
-        ask(1, "total takes |takes");
-        ask(1, "total|5");
-        ask(1, "total 1234|5");
-        ask(1, "total |rest");
-        ask(1, "total |least");
-        ask(1, "total |most");
-        ask(1, "total |hem");
-        ask(1, "total |leftover");
-        ask(1, "total yards|");
-        ask(1, "total yards|5");
-        ask(1, "total yards |all");
-        ask(1, "total yards 3 |4");
-        ask(4, "total yards yards yards yards yards yards |yards 1");
-        ask(0, "total yards yards yards yards yards yards 1");
-        ask(4, "total yards yards yards yards yards yards|(1)");
-        ask(0, "total yards yards yards yards yards yards 1+yards yards yards yards yards yards 2*yards 3");
-        ask(4, "first [[[[[[|[");
-        ask(4, "first not not not not not not |not all");
-        ask(4, "first [not yards(yards(|yards 1))=2]");
+        Checks.askFault(0, "first all");
+        Checks.askFault(0, "\nlast[all]\n");
+        Checks.askFault(0, "often not left<used and changed=mended");
+        Checks.askFault(0, "total takes+shown+used+left+changed+mended+number+yards 2");
+        Checks.askFault(0, "most yards yards number");
+        Checks.askFault(0, "least yards(number+1)*yards min(1,2)");
+        Checks.askFault(1, "|");
+        Checks.askFault(1, "  |");
+        Checks.askFault(1, "|all");
+        Checks.askFault(1, "|sum takes");
+        Checks.askFault(1, "|max(1,2)");
+        Checks.askFault(1, "|firsts all");
+        Checks.askFault(1, "|5");
+        Checks.askFault(1, "first|");
+        Checks.askFault(1, "first takes|");
+        Checks.askFault(1, "first all|;");
+        Checks.askFault(1, "first all |all");
+        Checks.askFault(1, "total |all");
+        Checks.askFault(1, "total takes|>3");
+        Checks.askFault(1, "total takes |takes");
+        Checks.askFault(1, "total|5");
+        Checks.askFault(1, "total 1234|5");
+        Checks.askFault(1, "total |rest");
+        Checks.askFault(1, "total |least");
+        Checks.askFault(1, "total |most");
+        Checks.askFault(1, "total |hem");
+        Checks.askFault(1, "total |leftover");
+        Checks.askFault(1, "total yards|");
+        Checks.askFault(1, "total yards|5");
+        Checks.askFault(1, "total yards |all");
+        Checks.askFault(1, "total yards 3 |4");
+        Checks.askFault(4, "total yards yards yards yards yards yards |yards 1");
+        Checks.askFault(0, "total yards yards yards yards yards yards 1");
+        Checks.askFault(4, "total yards yards yards yards yards yards|(1)");
+        Checks.askFault(0, "total yards yards yards yards yards yards 1+yards yards yards yards yards yards 2*yards 3");
+        Checks.askFault(4, "first [[[[[[|[");
+        Checks.askFault(4, "first not not not not not not |not all");
+        Checks.askFault(4, "first [not yards(yards(|yards 1))=2]");
     }
 
     /** What a refused room leaves, and whose fault is told. */

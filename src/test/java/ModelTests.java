@@ -315,10 +315,41 @@ final class ModelTests {
         Checks.due("lasts", Checks.imageOf(x)[2], day[2]);
     }
 
+    /** An image, often of what can be: {sewn, used, lasts, changes, mended, cost} as a day is. */
+    private static int[] image(Model m, BelowThread x, int[] was, List<int[]> past) {
+        int length = m.lengths[m.random.nextInt(m.lengths.length)];
+        int lasts = m.random.nextInt(8) == 0 ? m.random.nextInt(256) : length;
+        int sewn = Math.max(0, m.random.nextInt(m.takes.length + 2) - m.random.nextInt(2));
+        int used = m.random.nextInt(lasts + (m.random.nextInt(4) == 0 ? 3 : 1));
+        int changes = m.random.nextInt(sewn + (m.random.nextInt(4) == 0 ? 3 : 1));
+        int mended = m.random.nextInt(sewn + (m.random.nextInt(4) == 0 ? 3 : 1));
+        int cost = m.random.nextBoolean() ? m.random.nextInt(300) : 9000 + m.random.nextInt(1100);
+        boolean there = false;
+        for (int one : m.lengths) {
+            there |= one == lasts;
+        }
+        boolean good = there && used <= lasts && sewn <= m.takes.length && changes <= sewn && mended <= sewn && cost <= 9999;
+        int[] bytes = Checks.image(sewn, Math.min(255, used), lasts, changes, mended, cost);
+        if (m.random.nextInt(6) == 0) {
+            bytes[7] = (bytes[7] + 1) % 256;
+            good = false;
+        }
+        Checks.tape(x, bytes);
+        Checks.due("on", x.on(), good);
+        if (!good) {
+            return was;
+        }
+        past.clear();
+        return new int[] {sewn, used, lasts, changes, mended, cost};
+    }
+
     private static int[] act(Model m, BelowThread x, int[] was, List<int[]> past) {
         int[] day = was.clone();
         boolean left = day[0] < m.takes.length;
-        int what = m.random.nextInt(8);
+        int what = m.random.nextInt(9);
+        if (what == 8) {
+            return image(m, x, was, past);
+        }
         if (what == 0) {
             int[] back = past.isEmpty() ? was : past.remove(past.size() - 1);
             Checks.due("undo", x.undo(), back != was);
@@ -349,6 +380,7 @@ final class ModelTests {
             day[5] += left ? stitch(m, day, change) : 0;
             Checks.due("sew", x.sew(change), left ? day[4] - mends : -1);
         }
+        day[5] = Math.min(9999, day[5]);
         if (left || what == 1) {
             past.add(was);
             if (past.size() > 20) {

@@ -509,7 +509,7 @@ final class PromiseTests {
         BelowThread y = Checks.in(FIVE);
         Checks.due("sews(3)", y.sews(3), 6);
         // all of it, where the day's cost stands still
-        Checks.tape(y, image(2, 7, 7, 0, 0, 9998));
+        Checks.tape(y, Checks.image(2, 7, 7, 0, 0, 9998));
         Checks.due("on", y.on(), true);
         Checks.due("sews all of it", y.sews(0), 6);
         dayIs("stands still", y, 5, 0, 0, 2, 9999, 0);
@@ -705,18 +705,10 @@ final class PromiseTests {
 
     // ---- promises 31 to 34
 
-    private static int[] image(int sewn, int used, int lasts, int changes, int mended, int cost) {
-        int[] bytes = {sewn, used, lasts, changes, mended, cost / 256, cost % 256, 199};
-        for (int k = 0; k < 7; k++) {
-            bytes[7] = (3 * bytes[7] + bytes[k]) % 251;
-        }
-        return bytes;
-    }
-
     private static void images() {
         BelowThread x = Checks.in(FIVE + "wind 99;mend 99;");
         x.sews(0);
-        int[] due = image(5, 0, 7, 0, 2, 396);
+        int[] due = Checks.image(5, 0, 7, 0, 2, 396);
         Checks.due("image", x.image(), 8);
         for (int k = -1; k < 10; k++) {
             Checks.due("octet(" + k + ")", x.octet(k), k >= 0 && k < 8 ? due[k] : -1);
@@ -740,39 +732,39 @@ final class PromiseTests {
         x.sew(false);
         on(x, false);
         on(x, false, 1, 2, 3);
-        on(x, false, image(7, 0, 7, 0, 0, 0));
-        on(x, false, image(3, 0, 7, 4, 0, 0));
-        on(x, false, image(3, 0, 7, 0, 4, 0));
-        on(x, false, image(3, 5, 7, 0, 4, 0));
-        on(x, false, image(3, 5, 7, 4, 0, 0));
-        on(x, false, image(3, 0, 6, 0, 0, 0));
-        on(x, false, image(3, 8, 7, 0, 0, 0));
-        on(x, false, image(3, 0, 7, 0, 0, 10000));
-        on(x, false, image(255, 255, 255, 255, 255, 65535));
-        int[] wrong = image(3, 5, 7, 1, 2, 300);
+        on(x, false, Checks.image(7, 0, 7, 0, 0, 0));
+        on(x, false, Checks.image(3, 0, 7, 4, 0, 0));
+        on(x, false, Checks.image(3, 0, 7, 0, 4, 0));
+        on(x, false, Checks.image(3, 5, 7, 0, 4, 0));
+        on(x, false, Checks.image(3, 5, 7, 4, 0, 0));
+        on(x, false, Checks.image(3, 0, 6, 0, 0, 0));
+        on(x, false, Checks.image(3, 8, 7, 0, 0, 0));
+        on(x, false, Checks.image(3, 0, 7, 0, 0, 10000));
+        on(x, false, Checks.image(255, 255, 255, 255, 255, 65535));
+        int[] wrong = Checks.image(3, 5, 7, 1, 2, 300);
         wrong[7]++;
         on(x, false, wrong);
-        int[] longer = java.util.Arrays.copyOf(image(3, 5, 7, 1, 2, 300), 9);
+        int[] longer = java.util.Arrays.copyOf(Checks.image(3, 5, 7, 1, 2, 300), 9);
         on(x, false, longer);
         Checks.due("refused", x.status(5), 13);
         dayIs("all stays", x, 1, 4, 0, 0, 0, 1);
         Checks.due("acts stay", x.has(11), 1);
-        on(x, true, image(3, 5, 7, 1, 2, 300));
+        on(x, true, Checks.image(3, 5, 7, 1, 2, 300));
         dayIs("on", x, 3, 5, 1, 2, 300, 1);
         Checks.due("nothing can be undone", x.has(11), 0);
         Checks.due("undo", x.undo(), false);
-        on(x, true, image(3, 0, 7, 3, 3, 0));
-        on(x, true, image(6, 7, 7, 6, 6, 9999));
+        on(x, true, Checks.image(3, 0, 7, 3, 3, 0));
+        on(x, true, Checks.image(6, 7, 7, 6, 6, 9999));
         dayIs("the most", x, 6, 7, 6, 6, 9999, 0);
-        on(x, true, image(0, 3, 7, 0, 0, 0));
+        on(x, true, Checks.image(0, 3, 7, 0, 0, 0));
         Checks.due("changed, as some is used", x.sew(true), 0);
-        on(x, true, image(0, 0, 7, 0, 0, 0));
+        on(x, true, Checks.image(0, 0, 7, 0, 0, 0));
         BelowThread y = Checks.in("bobbin lasts 10 odds 50 lasts 20 odds 50;seam a takes 9;");
-        on(y, true, image(0, 11, 20, 0, 0, 0));
+        on(y, true, Checks.image(0, 11, 20, 0, 0, 0));
         Checks.due("glance at a longer one", y.glance(), 1);
-        on(y, false, image(0, 11, 10, 0, 0, 0));
-        on(y, false, image(0, 0, 0, 0, 0, 0));
-        on(new BelowThread(), false, image(0, 0, 0, 0, 0, 0));
+        on(y, false, Checks.image(0, 11, 10, 0, 0, 0));
+        on(y, false, Checks.image(0, 0, 0, 0, 0, 0));
+        on(new BelowThread(), false, Checks.image(0, 0, 0, 0, 0, 0));
         // An image of its own brings it back, with all that follows.
         BelowThread z = Checks.in(Checks.BIG);
         z.anew();
