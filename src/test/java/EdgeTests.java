@@ -626,9 +626,18 @@ final class EdgeTests {
         }
         due("without SEAMS", Checks.in(EMPTY).hidden(9, 0), 0);
         due("without SEAMS", Checks.in(EMPTY).hidden(9, 1), 0);
+        for (int length : new int[] {1, 2, 4, 8}) {
+            Checks.room(x, EMPTY + "seam a takes 4 anew 2;seam b takes 4 shown anew 2;");
+            x.hidden(length, 0);
+            Checks.room(x, EMPTY);
+            due("without SEAMS any more", x.hidden(length, 10), NONE);
+            due("without SEAMS any more", x.hidden(length, 1), 0);
+            due("without SEAMS any more", x.hidden(length, 0), 0);
+        }
         edge(18, "NONE when it can't be, without a room, or for others.");
         BelowThread y = Checks.in("bobbin lasts 9 odds 100;seam a takes 9 anew 4;seam b takes 2;");
         due("4 and 5 by 5", y.hidden(5, 0), 3);
+        Checks.room(x, EMPTY + "seam a takes 4 anew 1 2 3;");
         for (int what : new int[] {0, 1, 10, 11}) {
             due("4 and 5 by 4", y.hidden(4, what), NONE);
             due("without a room", new BelowThread().hidden(9, what), NONE);
